@@ -30,6 +30,7 @@ public final class RingingRock {
     private static final int SLOWEST = 6;
     // No least way comes into more than all cells.
     private static final int LONGEST = CELLS * SLOWEST;
+    private static final int WORDS = LONGEST / 64 + 1;
 
     private static final int CREW = 0;
     private static final int HAMMER = 1;
@@ -70,6 +71,8 @@ public final class RingingRock {
     // Rows of a time for each cell, used again by every call.
     private final int[] times = new int[CELLS];
     private final int[] otherTimes = new int[CELLS];
+    // For each crew a set of times, in WORDS of 64 bits.
+    private final long[] seen = new long[MOST_CREWS * WORDS];
 
     public RingingRock() {
     }
@@ -422,16 +425,15 @@ public final class RingingRock {
         if (!isCell(cell)) {
             return finding(BEYOND);
         }
-        // For each crew a set of the times (and of none) in words of 64 bits.
-        long[] seen = new long[MOST_CREWS * (LONGEST / 64 + 1)];
+        Arrays.fill(seen, 0);
         int maps = beginMaps();
         for (int m = 0; m < maps; m++) {
             if (draftFitsAs(m)) {
                 draft.rock.timesTo(cell, times);
-                markTimesOfCrews(seen);
+                markTimesOfCrews();
             }
         }
-        return orNone(crewOfMostTimes(seen));
+        return orNone(crewOfMostTimes());
     }
 
     // ---- digging
@@ -868,12 +870,11 @@ public final class RingingRock {
     }
 
     /** Marks for each crew the time from it that 'times' tells. */
-    private void markTimesOfCrews(long[] seen) {
-        int words = LONGEST / 64 + 1;
+    private void markTimesOfCrews() {
         for (int crew = 0; crew < now.crews; crew++) {
             // None is -1, and takes the lowest bit.
             int mark = at(times, now.placeOf(crew)) + 1;
-            int word = crew * words + mark / 64;
+            int word = crew * WORDS + mark / 64;
             if (lies(word, 0, seen.length - 1)) {
                 seen[word] |= 1L << (mark % 64);
             }
@@ -881,13 +882,12 @@ public final class RingingRock {
     }
 
     /** The first crew of which most times are marked; none, if nothing is. */
-    private int crewOfMostTimes(long[] seen) {
-        int words = LONGEST / 64 + 1;
+    private int crewOfMostTimes() {
         int best = NOTHING;
         int most = 0;
         for (int crew = 0; crew < now.crews; crew++) {
             int marks = 0;
-            for (int word = crew * words; word < (crew + 1) * words; word++) {
+            for (int word = crew * WORDS; word < (crew + 1) * WORDS; word++) {
                 marks += lies(word, 0, seen.length - 1) ? Long.bitCount(seen[word]) : 0;
             }
             if (marks > most) {
@@ -973,7 +973,11 @@ public final class RingingRock {
     private static long flood(long set, long through) {
         long grown = set;
         for (int i = 0; i < CELLS; i++) {
-            grown |= besides(grown) & through;
+            long wider = grown | besides(grown) & through;
+            if (wider == grown) {
+                return grown;
+            }
+            grown = wider;
         }
         return grown;
     }

@@ -45,7 +45,7 @@ public final class ModelTest {
     }
 
     public static void main(String[] args) throws Exception {
-        int runs = args.length > 0 ? Integer.parseInt(args[0]) : 300;
+        int runs = args.length > 0 ? Integer.parseInt(args[0]) : 200;
         for (int seed = 1; seed <= runs; seed++) {
             if (!new ModelTest(seed).run()) {
                 System.exit(1);

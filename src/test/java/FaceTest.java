@@ -1,0 +1,124 @@
+import java.lang.reflect.Constructor;
+import java.lang.reflect.Field;
+import java.lang.reflect.Method;
+import java.lang.reflect.Modifier;
+import java.nio.file.Files;
+import java.nio.file.Path;
+import java.util.Arrays;
+import java.util.List;
+import java.util.TreeSet;
+import java.util.regex.Matcher;
+import java.util.regex.Pattern;
+import java.util.stream.Collectors;
+
+/** The public face is the document's, and the program keeps to what of LANGUAGE.md can be seen by a scan. */
+public final class FaceTest {
+
+    private static final Due due = new Due();
+    private static final Path PROGRAM = Path.of("src/main/java/RingingRock.java");
+    private static final Path DOCUMENT = Path.of("../shared/DOC.md");
+
+    public static void main(String[] args) throws Exception {
+        face();
+        nothingElseIsOpen();
+        noNameTwice();
+        bannedWords();
+        shortMethods();
+        due.end();
+    }
+
+    private static void face() throws Exception {
+        TreeSet<String> told = new TreeSet<>();
+        Matcher m = Pattern.compile("(?m)^    public (int|long) (\\w+)\\((.*)\\);$")
+                .matcher(Files.readString(DOCUMENT));
+        while (m.find()) {
+            int parameters = m.group(3).isEmpty() ? 0 : m.group(3).split(",").length;
+            told.add(m.group(1) + " " + m.group(2) + " " + parameters);
+        }
+        due.is("calls of the document", told.size(), 52);
+        TreeSet<String> built = new TreeSet<>();
+        for (Method method : RingingRock.class.getDeclaredMethods()) {
+            if (Modifier.isPublic(method.getModifiers())) {
+                due.holds("ints alone", Arrays.stream(method.getParameterTypes()).allMatch(t -> t == int.class));
+                built.add(method.getReturnType() + " " + method.getName() + " " + method.getParameterCount());
+            }
+        }
+        due.holds("the face: " + told + " / " + built, told.equals(built));
+        due.holds("final", Modifier.isFinal(RingingRock.class.getModifiers()));
+    }
+
+    private static void nothingElseIsOpen() {
+        for (Method method : RingingRock.class.getDeclaredMethods()) {
+            int kind = method.getModifiers();
+            due.holds(method + " is public or private", Modifier.isPublic(kind) || Modifier.isPrivate(kind));
+        }
+        for (Field field : RingingRock.class.getDeclaredFields()) {
+            due.holds(field + " is private", Modifier.isPrivate(field.getModifiers()));
+        }
+        due.is("constructors", RingingRock.class.getDeclaredConstructors().length, 1);
+        for (Constructor<?> constructor : RingingRock.class.getDeclaredConstructors()) {
+            due.is("its parameters", constructor.getParameterCount(), 0);
+        }
+        for (Class<?> inside : RingingRock.class.getDeclaredClasses()) {
+            due.holds(inside + " is static and not open",
+                    Modifier.isStatic(inside.getModifiers()) && !Modifier.isPublic(inside.getModifiers()));
+        }
+    }
+
+    private static void noNameTwice() {
+        List<String> open = Arrays.stream(RingingRock.class.getDeclaredMethods())
+                .filter(m -> Modifier.isPublic(m.getModifiers())).map(Method::getName).collect(Collectors.toList());
+        for (Method method : RingingRock.class.getDeclaredMethods()) {
+            due.holds(method + " has a name of its own",
+                    Modifier.isPublic(method.getModifiers()) || !open.contains(method.getName()));
+        }
+        for (Class<?> inside : RingingRock.class.getDeclaredClasses()) {
+            for (Method method : inside.getDeclaredMethods()) {
+                due.holds(method + " has a name of its own", !open.contains(method.getName()));
+            }
+            due.holds(inside + " has few fields", Arrays.stream(inside.getDeclaredFields())
+                    .filter(f -> !Modifier.isStatic(f.getModifiers())).count() <= 20);
+        }
+    }
+
+    /** The program without comments and texts. */
+    private static String code() throws Exception {
+        String text = Files.readString(PROGRAM);
+        return text.replaceAll("(?s)/\\*.*?\\*/", "").replaceAll("//[^\n]*", "")
+                .replaceAll("\"[^\"\n]*\"", "\"\"").replaceAll("'[^'\n]'", "' '");
+    }
+
+    private static void bannedWords() throws Exception {
+        String code = code();
+        String[] banned = {"throw", "throws", "try", "catch", "synchronized", "assert", "instanceof", "package",
+            "protected", "Object", "Exception", "Error", "System\\.(?!arraycopy)\\w+", "Integer", "Thread", "Random",
+            "equals", "hashCode", "toString", "volatile", "native", "transient", "var", "yield", "StringBuilder",
+            "Math\\.(?!max|min|abs)\\w+", "Long\\.(?!bitCount)\\w+", "Arrays\\.(?!fill)\\w+", "while\\s*\\(true"};
+        for (String word : banned) {
+            due.holds("no " + word, !Pattern.compile("\\b" + word + "\\b").matcher(code).find());
+        }
+        due.holds("no lambda, no method reference", !code.contains("->") && !code.contains("::"));
+        due.holds("no joining of texts", !Pattern.compile("\"\"\\s*\\+|\\+\\s*\"\"").matcher(code).find());
+        due.holds("one import", Pattern.compile("\\bimport\\b").matcher(code).results().count() == 1
+                && code.contains("import java.util.Arrays;"));
+        due.holds("plain signs", Files.readString(PROGRAM).chars().allMatch(c -> c == '\n' || c >= 32 && c < 127));
+        Matcher fields = Pattern.compile("(?m)^ *(?:private )?static (?!final)[\\w\\[\\]]+ \\w+( =|;)").matcher(code);
+        due.holds("static fields are final", !fields.find());
+    }
+
+    private static void shortMethods() throws Exception {
+        String[] lines = Files.readString(PROGRAM).split("\n");
+        for (int indent = 4; indent <= 8; indent += 4) {
+            String head = " ".repeat(indent) + "(public |private )?(static )?\\w+(\\[\\])? \\w+\\(.*\\{";
+            int begin = -1;
+            for (int i = 0; i < lines.length; i++) {
+                if (lines[i].matches(head)) {
+                    begin = i;
+                } else if (begin >= 0 && lines[i].equals(" ".repeat(indent) + "}")) {
+                    due.holds("short: " + lines[begin].strip(), i - begin < 60);
+                    begin = -1;
+                }
+            }
+        }
+    }
+}
