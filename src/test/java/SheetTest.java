@@ -221,6 +221,11 @@ public final class SheetTest {
         x.write(2, 4, 9);
         x.sheet(2, 8, 4);
         due.is("no more than it has", x.load(2), 4);
+        x.sheet(2, 8, 40);
+        x.sheet(2, 8, 4);
+        x.stuff(4, 3);
+        due.is("no more than it has", x.load(2), 4);
+        due.is("the cell behind it stays", x.cells(3), 16);
         x.load(0);
         x.write(0, 1, -1);
         due.is("it ends at a -1", x.load(0), 1);

@@ -278,6 +278,7 @@ public final class SoundTest {
     private static void manyAndSilent() {
         RingingRock x = new RingingRock();
         due.is("no crews", x.many(3), 0);
+        due.is("no crews", x.many(0), 0);
         due.is("all is silent", x.silent(), ALL);
         Due.tell(x, "crew force 1; mute at 2; soft at 35 force 1; deaf at 1 force 1");
         due.is("the first, the mute and the deaf one", x.many(2), 3);
@@ -429,6 +430,11 @@ public final class SoundTest {
 
     private static void kindForStarts() {
         RingingRock x = new RingingRock();
+        Due.tell(x, "deaf at 0; crew at 35 force 3");
+        due.is("none hears it as any", x.kindFor(1), 0);
+        x.change(0, 0, 0);
+        due.is("crew 0 alone hears it by 20", x.kindFor(1), 1);
+        x = new RingingRock();
         Due.tell(x, "rubble 0 to 35; crew; soft at 5; crew at 35; soft at 31");
         x.change(0, 2, 8);
         // 30 to 5, 60 to 35, 36 to 31: a crew carries 32, a hammer 64, a drill comes too late.
