@@ -55,7 +55,7 @@ public final class ModelTest {
 
     private boolean run() throws Exception {
         boolean right = begin();
-        while (right && trail.size() < 500) {
+        while (right && trail.size() < 470) {
             right = random.nextInt(40) == 0 ? tellText(randomText()) : oneCall();
         }
         return right;
