@@ -197,7 +197,7 @@ public final class RingingRock {
             return finding(STATE);
         }
         listenForEchoes(crew, cell);
-        return orNone(echoOf(crew, cell, hole));
+        return orNone(echoOf(crew, hole));
     }
 
     public int chord(int crew, int cell, int i) {
@@ -207,7 +207,7 @@ public final class RingingRock {
         listenForEchoes(crew, cell);
         int latest = NOTHING;
         for (int k = 0; k <= i; k++) {
-            latest = echoBehind(latest, crew, cell);
+            latest = echoBehind(latest, crew);
             if (latest == NOTHING) {
                 return finding(NONE);
             }
@@ -761,7 +761,7 @@ public final class RingingRock {
     }
 
     /** The echo of a hole, behind listenForEchoes. */
-    private int echoOf(int crew, int cell, int hole) {
+    private int echoOf(int crew, int hole) {
         long around = besides(setOf(hole));
         int least = NOTHING;
         for (int c = 0; c < CELLS; c++) {
@@ -779,11 +779,11 @@ public final class RingingRock {
     }
 
     /** The least echo of any hole that is later than a time, behind listenForEchoes. */
-    private int echoBehind(int time, int crew, int cell) {
+    private int echoBehind(int time, int crew) {
         int least = NOTHING;
         for (int hole = 0; hole < CELLS; hole++) {
             if (now.rock.stuffAt(hole) == HOLE) {
-                int echo = echoOf(crew, cell, hole);
+                int echo = echoOf(crew, hole);
                 if (echo > time && (least == NOTHING || echo < least)) {
                     least = echo;
                 }

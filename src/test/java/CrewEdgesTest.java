@@ -19,7 +19,9 @@ public final class CrewEdgesTest {
         crewAtFirst();
         ofEnds();
         noCrewIsNone();
+        eachOfSix();
         changeEnds();
+        changeOneOfSix();
         forceEnds();
         cellsEnds();
         cellsEmptyAndFull();
@@ -144,6 +146,27 @@ public final class CrewEdgesTest {
         }
     }
 
+    private static RingingRock sixUnlike() {
+        RingingRock x = new RingingRock();
+        for (int crew = 0; crew < 6; crew++) {
+            x.crew(5 - crew, 30 + crew);
+            x.change(crew, 2, 1 + crew);
+        }
+        return x;
+    }
+
+    private static void eachOfSix() {
+        int[] carries = {0, 4, 32, 37, 40, 24};
+        int[] starts = {2, 2, 2, 1, 0, 0};
+        int[] hearsBy = {30, 30, 40, 60, 60, 60};
+        for (int crew = 0; crew < 6; crew++) {
+            int[] told = {5 - crew, 30 + crew, 1 + crew, carries[crew], starts[crew], hearsBy[crew]};
+            for (int what = 0; what <= 5; what++) {
+                edges.answers(CrewEdgesTest::sixUnlike, told[what], "of", crew, what);
+            }
+        }
+    }
+
     // ---- promise 5
 
     private static void changeEnds() {
@@ -157,6 +180,25 @@ public final class CrewEdgesTest {
         edges.answers(USUAL, 3, "change", 3, 0, 6);
         edges.answers(USUAL, 35, "change", 2, 1, 0);
         edges.answers(USUAL, 20, "change", 2, 2, 1);
+    }
+
+    /** Of six that are unlike one becomes other by one thing, to its least and to its greatest value. */
+    private static void changeOneOfSix() {
+        int[] least = {0, 0, 1};
+        int[] greatest = {6, 35, 20};
+        for (int crew = 0; crew < 6; crew++) {
+            for (int what = 0; what <= 2; what++) {
+                for (int v : new int[] {least[what], greatest[what]}) {
+                    int was = new int[] {5 - crew, 30 + crew, 1 + crew}[what];
+                    edges.answers(CrewEdgesTest::sixUnlike, was, "change", crew, what, v);
+                    RingingRock x = sixUnlike();
+                    x.change(crew, what, v);
+                    due.is("it is so", x.of(crew, what), v);
+                    x.change(crew, what, was);
+                    edges.alike("changed and changed back", x, sixUnlike());
+                }
+            }
+        }
     }
 
     private static void forceEnds() {

@@ -4,6 +4,7 @@ import java.util.function.Supplier;
 public final class KnockerEdgesTest {
 
     private static final Edges edges = new Edges();
+    private static final Due due = edges.due;
     private static final Supplier<RingingRock> EMPTY = Edges::empty;
     private static final Supplier<RingingRock> USUAL = Edges::usual;
     private static final Supplier<RingingRock> FULL = Edges::full;
@@ -12,15 +13,19 @@ public final class KnockerEdgesTest {
         fromEnds();
         fromByTimes();
         fromWhereNoWayLeads();
+        fromCellsOfOtherPaces();
         middleOfNone();
         middleOfOne();
         middleOfSix();
+        middleBehindOtherCalls();
         kindForEnds();
         kindForNobody();
         kindForByTime();
+        kindForByWhatOthersHear();
+        kindForOfEachCrew();
         placeEnds();
         placeAmongHoles();
-        edges.due.end();
+        due.end();
     }
 
     private static Supplier<RingingRock> way(int time) {
@@ -69,6 +74,18 @@ public final class KnockerEdgesTest {
         }
     }
 
+    /** On a way in a row to its ends: what the end where it begins is of is all one, what the end that it comes into is of is not. */
+    private static void fromCellsOfOtherPaces() {
+        for (String stuff : new String[] {"rock", "rubble", "water", "iron"}) {
+            String below = "hole 0 to 29; rubble 30; crew at 33; crew at 30; " + stuff + " 35";
+            edges.answers(() -> Edges.told(below), Due.set(33, 34, 35), "from", 0, 1, 10);
+            edges.answers(() -> Edges.told(below), Due.set(33, 34, 35), "from", 1, 0, -10);
+            String above = "hole 6 to 35; rubble 5; crew at 2; crew at 5; " + stuff + " 0";
+            edges.answers(() -> Edges.told(above), Due.set(0, 1, 2), "from", 0, 1, 10);
+            edges.answers(() -> Edges.told(above), Due.set(0, 1, 2), "from", 1, 0, -10);
+        }
+    }
+
     // ---- promise 21
 
     private static void middleOfNone() {
@@ -97,6 +114,18 @@ public final class KnockerEdgesTest {
         edges.answers(() -> Edges.told(five + 1), 3, "middle");
         edges.answers(() -> Edges.told(five + 0), 2, "middle");
         edges.onlyTells(FULL, "middle");
+    }
+
+    /** What other calls found out before is all one. */
+    private static void middleBehindOtherCalls() {
+        RingingRock x = Edges.told("crew; crew at 35; hole 12 to 17");
+        due.is("none is come to from all", x.middle(), Due.NONE);
+        x.from(0, 1, 0);
+        x.apart(0, 1);
+        x.change(1, 1, 5);
+        due.is("between 0 and 5", x.middle(), 2);
+        x.change(0, 1, 4);
+        due.is("of 4 and 5", x.middle(), 4);
     }
 
     // ---- promise 22
@@ -129,6 +158,46 @@ public final class KnockerEdgesTest {
             };
             edges.answers(floor, kinds[i], "kindFor", 0);
         }
+    }
+
+    /** At the way's end there is one who hears by so much; by each force another kind carries the sound so far. */
+    private static void kindForByWhatOthersHear() {
+        int[] hearsBy = {60, 60, 60, 40, 30, 30};
+        for (int hearer = 0; hearer < 6; hearer++) {
+            int limit = hearsBy[hearer];
+            edges.answers(wayTo(limit, limit / 8 + 1, hearer), 1, "kindFor", 0);
+            edges.answers(wayTo(limit + 1, limit / 8 + 1, hearer), 0, "kindFor", 0);
+            edges.answers(wayTo(limit, limit / 8, hearer), limit % 8 == 0 ? 1 : 0, "kindFor", 0);
+            if (hearer != 3) {
+                // By force 7 a drill carries 61, by force 3 it carries 29; it starts by 1.
+                edges.answers(wayTo(limit - 1, limit / 8, hearer), 2, "kindFor", 0);
+            }
+        }
+        // By force 2 a drill carries 21, a bell 23; both of them come to the end by 24.
+        edges.answers(wayTo(22, 2, 4), 3, "kindFor", 0);
+        // By force 3 a drill carries 29, a bell 32; a soft one hears by 30, a bell is heard by 31 and 32.
+        edges.answers(wayTo(29, 3, 4), 2, "kindFor", 0);
+        edges.answers(wayTo(30, 3, 4), 0, "kindFor", 0);
+        edges.answers(wayTo(30, 3, 0), 3, "kindFor", 0);
+    }
+
+    private static Supplier<RingingRock> wayTo(int time, int force, int hearer) {
+        return () -> {
+            Way way = new Way(time);
+            way.crew(6, 0, force);
+            way.crew(hearer, way.end, 1);
+            return way.x;
+        };
+    }
+
+    /** Each of six by the cell and the force of its own. */
+    private static void kindForOfEachCrew() {
+        Supplier<RingingRock> floor = () -> Edges.told("hole 0 to 35; rock 0 to 5; crew force 1;deaf at 5 force 1;mute at 3 force 1;soft at 4");
+        // By 6 the one at 3 hears the one at 0, by 8 that at 4: a crew carries 4, a hammer 8.
+        edges.answers(floor, 1, "kindFor", 0);
+        edges.answers(floor, 2, "kindFor", 1);
+        edges.answers(floor, 1, "kindFor", 2);
+        edges.answers(floor, 0, "kindFor", 3);
     }
 
     // ---- promise 23

@@ -34,6 +34,8 @@ public final class MapEdgesTest {
         asksOfNone();
         asksTies();
         asksFarTimes();
+        asksFourOrFiveTimes();
+        asksAgain();
         due.end();
     }
 
@@ -257,19 +259,57 @@ public final class MapEdgesTest {
 
     /** Times above 99 are unlike one another, and unlike none. */
     private static void asksFarTimes() {
-        Supplier<RingingRock> floor = () -> {
-            Way way = new Way(120);
-            way.crew(5, 35, 1);
-            way.crew(5, 0, 1);
-            way.x.crew(6, way.end);
-            way.x.unsure(6);
-            return way.x;
-        };
-        edges.answers(floor, 1, "asks", end120());
-        edges.answers(floor, 2, "asks", 0);
+        for (int time : new int[] {100, 120, 127, 128, 133, 138}) {
+            int end = new Way(time).end;
+            Supplier<RingingRock> nearAhead = () -> farAndNear(time, end, 0);
+            edges.answers(nearAhead, 1, "asks", end);
+            Supplier<RingingRock> farAhead = () -> farAndNear(time, 0, end);
+            edges.answers(farAhead, 0, "asks", end);
+        }
     }
 
-    private static int end120() {
-        return new Way(120).end;
+    /** The way's second cell is unsure, so that from its begin the time is not sure, and from its end it is. */
+    private static RingingRock farAndNear(int time, int one, int other) {
+        Way way = new Way(time);
+        way.crew(5, one, 1);
+        way.crew(6, other, 1);
+        way.x.unsure(Way.PATH[1]);
+        return way.x;
+    }
+
+    /**
+     * Crew 0 at 7 may go round the unsure cell 1, by rubble; crew 1 at 0 may not. So of the five
+     * stuffs it is 4 unlike times for the one, and 5 for the other, wherever they hear it.
+     */
+    private static void asksFourOrFiveTimes() {
+        int[] way = {2, 3, 4, 5, 11, 17, 23, 22, 21, 20, 19, 18, 24, 30, 31, 32, 33, 34, 35};
+        RingingRock x = Edges.told("hole 0 to 35; rock 0; rock 7; rubble 8; unsure 1; crew at 7; crew at 0; mute at 8");
+        for (int cell : way) {
+            int[] stuffs = {4, 0, 3, 1};
+            for (int stuff : stuffs) {
+                x.stuff(cell, stuff);
+                due.is("4 or 5 unlike times to " + cell, x.asks(cell), 1);
+            }
+        }
+        due.is("here there are times by more than 99", x.time(7, 35), 120);
+        for (int i = 0; i < 19; i++) {
+            x.stuff(way[i], 4);
+            due.is("4 or 5 unlike times by " + x.time(7, 35), x.asks(35), 1);
+            x.stuff(way[i], 0);
+            due.is("4 or 5 unlike times by " + x.time(7, 35), x.asks(35), 1);
+        }
+    }
+
+    /** What was asked before is all one. */
+    private static void asksAgain() {
+        RingingRock x = Edges.told("crew at 2; crew at 30; unsure 1");
+        due.is("of five times", x.asks(0), 0);
+        x.change(0, 1, 30);
+        x.change(1, 1, 2);
+        due.is("of five times", x.asks(0), 1);
+        x.change(1, 1, 30);
+        due.is("of one time", x.asks(0), 0);
+        x.sure();
+        due.is("of one time", x.asks(0), 0);
     }
 }

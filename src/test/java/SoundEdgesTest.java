@@ -36,8 +36,10 @@ public final class SoundEdgesTest {
         echoOfNoHole();
         echoByAllThatIsCarried();
         echoOfHoleAmongHoles();
+        echoInCorners();
         chordEnds();
         chordHasSoMany();
+        chordOfEachCrewAndHole();
         lastEnds();
         lastOfItsOwnAndUnheard();
         manyEnds();
@@ -45,6 +47,7 @@ public final class SoundEdgesTest {
         lagEnds();
         apartEnds();
         apartByHours();
+        apartInOneCellAlone();
         due.end();
     }
 
@@ -227,6 +230,17 @@ public final class SoundEdgesTest {
         edges.refused(() -> Edges.told("hole 6 to 7; bell at 35 force 20"), Due.NONE, "echo", 0, 7, 6);
     }
 
+    /** A hole beside a corner, which lies beside nothing else that sound comes into. */
+    private static void echoInCorners() {
+        int[] corners = {0, 5, 30, 35};
+        int[] beside = {1, 4, 24, 29};
+        for (int i = 0; i < 4; i++) {
+            String told = "hole 0 to 35; rock " + corners[i] + "; crew at " + corners[i];
+            edges.answers(() -> Edges.told(told), 1, "echo", 0, corners[i], beside[i]);
+            edges.answers(() -> Edges.told(told), 1, "chord", 0, corners[i], 0);
+        }
+    }
+
     // ---- promise 14
 
     private static void chordEnds() {
@@ -258,6 +272,19 @@ public final class SoundEdgesTest {
         edges.refused(() -> Edges.told("hole 1; mute"), Due.NONE, "chord", 0, 0, 0);
     }
 
+    /** The mute one is heard by no echo, the other two by unlike ones; of the holes 0 and 35, too. */
+    private static void chordOfEachCrewAndHole() {
+        Supplier<RingingRock> floor = () -> Edges.told("hole 0; hole 35; mute at 1; bell at 1 force 20; crew at 34 force 20");
+        edges.refused(floor, Due.NONE, "chord", 0, 1, 0);
+        edges.answers(floor, 3, "chord", 1, 1, 0);
+        edges.answers(floor, 35, "chord", 1, 1, 1);
+        edges.refused(floor, Due.NONE, "chord", 1, 1, 2);
+        edges.answers(floor, 1, "chord", 2, 34, 0);
+        edges.answers(floor, 33, "chord", 2, 34, 1);
+        edges.refused(floor, Due.NONE, "chord", 2, 34, 2);
+        edges.refused(floor, Due.NONE, "chord", 0, 35, 0);
+    }
+
     // ---- promise 15
 
     private static void lastEnds() {
@@ -282,6 +309,12 @@ public final class SoundEdgesTest {
         }
         edges.answers(() -> Edges.told("crew at 14"), 8, "last", 0, 7);
         edges.answers(() -> Edges.told("crew at 14"), 15, "last", 0, 21);
+        edges.answers(() -> Edges.told("crew at 6"), 0, "last", 0, 1);
+        edges.answers(() -> Edges.told("crew at 0"), 0, "last", 0, 1);
+        edges.answers(() -> Edges.told("crew at 35"), 35, "last", 0, 34);
+        edges.answers(() -> Edges.told("crew at 29"), 28, "last", 0, 34);
+        edges.answers(() -> Edges.told("rubble 28; crew at 29"), 35, "last", 0, 34);
+        edges.answers(() -> Edges.told("iron 35; crew at 29"), 35, "last", 0, 34);
     }
 
     // ---- promise 16
@@ -361,5 +394,15 @@ public final class SoundEdgesTest {
         }
         edges.answers(() -> Edges.told("hole 0; crew; crew"), ALL_HOURS, "apart", 0, 1);
         edges.answers(() -> Edges.told("mute; mute"), ALL_HOURS & ~1, "apart", 0, 1);
+    }
+
+    private static void apartInOneCellAlone() {
+        for (int c : new int[] {0, 1, 34, 35}) {
+            String alone = "hole 0 to 35; rock " + c + "; ";
+            edges.answers(() -> Edges.told(alone + "crew at " + c + "; deaf at " + c), ALL_HOURS & ~1, "apart", 0, 1);
+            edges.answers(() -> Edges.told(alone + "drill at " + c + "; crew at " + c), ALL_HOURS & ~2, "apart", 0, 1);
+            edges.answers(() -> Edges.told(alone + "soft at " + c + "; crew at " + c), ALL_HOURS & ~4, "apart", 0, 1);
+            edges.answers(() -> Edges.told(alone + "crew at " + c + "; soft at " + c), ALL_HOURS, "apart", 0, 1);
+        }
     }
 }
