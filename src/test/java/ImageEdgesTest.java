@@ -27,6 +27,7 @@ public final class ImageEdgesTest {
         statusOfEachFinding();
         statusOfFindingsOfLongs();
         statusIsNotUndone();
+        statusOfAllCalls();
         due.end();
     }
 
@@ -325,5 +326,16 @@ public final class ImageEdgesTest {
         x.undo();
         due.is("and that of undo()", x.status(3), 1);
         due.is("all", x.status(-1), 4);
+    }
+
+    /** An object is used for 512 calls: all but the last one may answer a finding. */
+    private static void statusOfAllCalls() {
+        for (int which : new int[] {-1, 3}) {
+            RingingRock x = new RingingRock();
+            for (int i = 0; i < 511; i++) {
+                due.is("nothing is kept", x.undo(), Due.NONE);
+            }
+            due.is("status " + which, x.status(which), 511);
+        }
     }
 }

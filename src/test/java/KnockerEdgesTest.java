@@ -105,6 +105,9 @@ public final class KnockerEdgesTest {
         edges.answers(() -> Edges.told("hole 0 to 35; iron 34; iron 35; deaf at 34"), 34, "middle");
         edges.onlyTells(USUAL, "middle");
         edges.answers(() -> Edges.told("hole 0 to 34; deaf at 35"), 35, "middle");
+        // To itself the time is 0, to the cell of iron beside it 1.
+        edges.answers(() -> Edges.told("iron 34; deaf at 35"), 35, "middle");
+        edges.answers(() -> Edges.told("iron 29; iron 34; deaf at 35; mute at 35"), 35, "middle");
     }
 
     /** Six in one cell, and six of which just the last one is far. */

@@ -35,6 +35,8 @@ public final class MapEdgesTest {
         asksTies();
         asksFarTimes();
         asksFourOrFiveTimes();
+        asksOneTime();
+        asksFiveTimesOfTwo();
         asksAgain();
         due.end();
     }
@@ -297,6 +299,36 @@ public final class MapEdgesTest {
             due.is("4 or 5 unlike times by " + x.time(7, 35), x.asks(35), 1);
             x.stuff(way[i], 0);
             due.is("4 or 5 unlike times by " + x.time(7, 35), x.asks(35), 1);
+        }
+    }
+
+    /** One time, whichever it is, is more than no time; so is none. */
+    private static void asksOneTime() {
+        for (int time = 0; time <= 133; time++) {
+            Way way = new Way(time);
+            way.crew(5, 0, 1);
+            due.is("one time, " + time, way.x.asks(way.end), 0);
+            way.x.stuff(0, 2);
+            due.is("one time, none", way.x.asks(way.end), 0);
+        }
+    }
+
+    /** To the way's end one comes from its begin, one from behind it, each by a cell that is unsure: of both there are five times. */
+    private static void asksFiveTimesOfTwo() {
+        for (int time = 7; time <= 120; time++) {
+            Way way = new Way(time);
+            int end = 0;
+            while (Way.PATH[end] != way.end) {
+                end++;
+            }
+            way.crew(5, 0, 1);
+            way.crew(5, Way.PATH[end + 2], 1);
+            way.x.stuff(Way.PATH[end + 2], 0);
+            way.x.unsure(Way.PATH[end + 1]);
+            way.x.unsure(Way.PATH[1]);
+            due.is("five times of both, about " + time, way.x.asks(way.end), 0);
+            way.x.change(0, 1, Way.PATH[1]);
+            due.is("two times of the first, five of the other", way.x.asks(way.end), 1);
         }
     }
 
