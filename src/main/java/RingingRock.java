@@ -627,9 +627,7 @@ public final class RingingRock {
         if (!hasNumbers(s, from, n) || !hasNumbers(t, to, n)) {
             return finding(BEYOND);
         }
-        // A sheet may be copied onto itself: arraycopy takes the numbers as they all were.
-        System.arraycopy(sheetNumbers, s * MOST_NUMBERS + from,
-                sheetNumbers, t * MOST_NUMBERS + to, n);
+        moveNumbers(sheetNumbers, s * MOST_NUMBERS + from, t * MOST_NUMBERS + to, n);
         return n;
     }
 
@@ -875,9 +873,7 @@ public final class RingingRock {
             // None is -1, and takes the lowest bit.
             int mark = at(times, now.placeOf(crew)) + 1;
             int word = crew * WORDS + mark / 64;
-            if (lies(word, 0, seen.length - 1)) {
-                seen[word] |= 1L << (mark % 64);
-            }
+            putBits(seen, word, bitsAt(seen, word) | 1L << (mark % 64));
         }
     }
 
@@ -888,7 +884,7 @@ public final class RingingRock {
         for (int crew = 0; crew < now.crews; crew++) {
             int marks = 0;
             for (int word = crew * WORDS; word < (crew + 1) * WORDS; word++) {
-                marks += lies(word, 0, seen.length - 1) ? Long.bitCount(seen[word]) : 0;
+                marks += Long.bitCount(bitsAt(seen, word));
             }
             if (marks > most) {
                 best = crew;
@@ -937,6 +933,24 @@ public final class RingingRock {
         int was = row[i];
         row[i] = v;
         return was;
+    }
+
+    /** As 'at', of a row of sets. */
+    private static long bitsAt(long[] row, int i) {
+        return i >= 0 && i < row.length ? row[i] : 0;
+    }
+
+    private static void putBits(long[] row, int i, long set) {
+        if (i >= 0 && i < row.length) {
+            row[i] = set;
+        }
+    }
+
+    /** n numbers of a row come to elsewhere in it; arraycopy takes them as they all were. */
+    private static void moveNumbers(int[] row, int from, int to, int n) {
+        if (n >= 0 && lies(from, 0, row.length - n) && lies(to, 0, row.length - n)) {
+            System.arraycopy(row, from, row, to, n);
+        }
     }
 
     /** All of a row comes into another one of its length. */
@@ -1058,20 +1072,20 @@ public final class RingingRock {
         private int latest;
 
         Rock() {
-            sets[0] = ALL_CELLS;
+            putBits(sets, 0, ALL_CELLS);
         }
 
         void becomeRock(Rock other) {
-            System.arraycopy(other.sets, 0, sets, 0, STUFFS);
+            System.arraycopy(other.sets, 0, sets, 0, Math.min(other.sets.length, sets.length));
         }
 
         long cellsOf(int stuff) {
-            return stuff >= 0 && stuff < sets.length ? sets[stuff] : 0;
+            return bitsAt(sets, stuff);
         }
 
         int stuffAt(int cell) {
             for (int stuff = 0; stuff < STUFFS; stuff++) {
-                if (has(sets[stuff], cell)) {
+                if (has(bitsAt(sets, stuff), cell)) {
                     return stuff;
                 }
             }
@@ -1087,9 +1101,9 @@ public final class RingingRock {
                 return;
             }
             for (int other = 0; other < STUFFS; other++) {
-                sets[other] &= ~setOf(cell);
+                putBits(sets, other, bitsAt(sets, other) & ~setOf(cell));
             }
-            sets[stuff] |= setOf(cell);
+            putBits(sets, stuff, bitsAt(sets, stuff) | setOf(cell));
         }
 
         long dryCells() {
@@ -1147,7 +1161,7 @@ public final class RingingRock {
         /** Sound begins in a cell, if it is no hole. */
         private void knock(int from) {
             Arrays.fill(coming, 0);
-            coming[0] = setOf(from) & ~cellsOf(HOLE);
+            putBits(coming, 0, setOf(from) & ~bitsAt(sets, HOLE));
             reached = 0;
             latest = 0;
         }
@@ -1155,8 +1169,8 @@ public final class RingingRock {
         /** Sound goes on by one time: the cells that it comes into first at this time. */
         private long cellsComeIntoAt(int time) {
             int slot = time & (SLOTS - 1);
-            long here = coming[slot] & ~reached;
-            coming[slot] = 0;
+            long here = bitsAt(coming, slot) & ~reached;
+            putBits(coming, slot, 0);
             if (here == 0) {
                 return 0;
             }
@@ -1167,7 +1181,8 @@ public final class RingingRock {
             }
             for (int stuff = 0; stuff < STUFFS; stuff++) {
                 if (stuff != HOLE) {
-                    coming[time + at(PACES, stuff) & (SLOTS - 1)] |= next & sets[stuff];
+                    int later = time + at(PACES, stuff) & (SLOTS - 1);
+                    putBits(coming, later, bitsAt(coming, later) | next & bitsAt(sets, stuff));
                 }
             }
             return here;

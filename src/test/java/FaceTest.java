@@ -6,6 +6,8 @@ import java.nio.file.Files;
 import java.nio.file.Path;
 import java.util.Arrays;
 import java.util.List;
+import java.util.Map;
+import java.util.TreeMap;
 import java.util.TreeSet;
 import java.util.regex.Matcher;
 import java.util.regex.Pattern;
@@ -24,6 +26,9 @@ public final class FaceTest {
         noNameTwice();
         bannedWords();
         shortMethods();
+        indexesAreTested();
+        divisorsAreConstants();
+        callsAreNotDeep();
         due.end();
     }
 
@@ -106,8 +111,64 @@ public final class FaceTest {
         due.holds("static fields are final", !fields.find());
     }
 
+    /** Each method's name, and its body without comments and texts; none is there twice but for constructors. */
+    private static Map<String, String> bodies() throws Exception {
+        Map<String, String> bodies = new TreeMap<>();
+        for (int indent = 4; indent <= 8; indent += 4) {
+            String ahead = " ".repeat(indent);
+            Matcher m = Pattern.compile("(?ms)^" + ahead + "(?:public |private )?(?:static )?"
+                    + "(?:int|long|boolean|void) (\\w+)\\([^)]*\\) \\{\n(.*?)^" + ahead + "\\}").matcher(code());
+            while (m.find()) {
+                due.holds("one " + m.group(1), bodies.put(m.group(1), m.group(2)) == null);
+            }
+        }
+        due.holds("all methods are seen: " + bodies.size(), bodies.size() > 130);
+        return bodies;
+    }
+
+    /** An index stands only where it is tested right there: in the four that read and write a row's element. */
+    private static void indexesAreTested() throws Exception {
+        for (Map.Entry<String, String> body : bodies().entrySet()) {
+            String name = body.getKey();
+            boolean tests = Pattern.compile("i >= 0 && i < row\\.length|i < 0 \\|\\| i >= row\\.length")
+                    .matcher(body.getValue()).find();
+            boolean indexes = Pattern.compile("(?<!new int|new long)\\[[^\\]]").matcher(body.getValue()).find();
+            due.holds(name + " tests its index", !indexes || tests);
+        }
+    }
+
+    private static void divisorsAreConstants() throws Exception {
+        Matcher m = Pattern.compile("[/%]=? *(\\S+)").matcher(code());
+        while (m.find()) {
+            due.holds("divided by " + m.group(1), m.group(1).matches("(64|2|STUFFS|CELLS)[;)]*"));
+        }
+    }
+
+    private static void callsAreNotDeep() throws Exception {
+        Map<String, String> bodies = bodies();
+        for (String name : bodies.keySet()) {
+            due.holds(name + " opens at most eight calls, itself too", depth(bodies, name, 0) <= 8);
+        }
+    }
+
+    /** How many calls stand open at most behind one; a call that comes back to itself gets ever deeper. */
+    private static int depth(Map<String, String> bodies, String name, int open) {
+        int most = 0;
+        Matcher m = Pattern.compile("\\b(\\w+)\\(").matcher(bodies.get(name));
+        while (open < 20 && m.find()) {
+            if (bodies.containsKey(m.group(1))) {
+                most = Math.max(most, depth(bodies, m.group(1), open + 1));
+            }
+        }
+        return most + 1;
+    }
+
     private static void shortMethods() throws Exception {
         String[] lines = Files.readString(PROGRAM).split("\n");
+        due.holds("few classes", RingingRock.class.getDeclaredClasses().length < 12);
+        for (Method method : RingingRock.class.getDeclaredMethods()) {
+            due.holds(method + " has few parameters", method.getParameterCount() <= 7);
+        }
         for (int indent = 4; indent <= 8; indent += 4) {
             String head = " ".repeat(indent) + "(public |private )?(static )?\\w+(\\[\\])? \\w+\\(.*\\{";
             int begin = -1;
