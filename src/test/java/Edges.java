@@ -178,7 +178,7 @@ final class Edges {
         for (int i = 2; i < 8; i++) {
             x.book(i, 30 - i, x.time(i, 30 - i));
         }
-        while (x.count(5) < 120) {
+        for (int i = 0; i < 120 && x.count(5) < 120; i++) {
             x.feed(0x20202020, Math.min(4, 120 - x.count(5)));
         }
         return x;
@@ -188,12 +188,17 @@ final class Edges {
         return new RingingRock();
     }
 
+    /** Years go to one; it ends also if none go. */
+    static void goTo(RingingRock x, int year) {
+        for (int i = 0; i < 20 && x.count(0) < year; i++) {
+            x.years(Math.min(60, year - x.count(0)));
+        }
+    }
+
     /** All of a year. */
     static RingingRock inYear(int year) {
         RingingRock x = usual();
-        while (x.count(0) < year) {
-            x.years(Math.min(60, year - x.count(0)));
-        }
+        goTo(x, year);
         return x;
     }
 }

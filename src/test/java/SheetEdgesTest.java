@@ -35,6 +35,9 @@ public final class SheetEdgesTest {
         judgeOrder();
         judgeNoneAndAll();
         judgeTo127();
+        sheetLeavesOthers();
+        writeAndCopyLeaveOthers();
+        loadAndJudgeTheirOwn();
         due.end();
     }
 
@@ -464,6 +467,90 @@ public final class SheetEdgesTest {
                     way.x.write(0, way.end, 127 - 65536);
                     due.is("127 by the lowest bits", way.x.judge(0, 0), bits <= 16 ? 0 : 1 + way.end);
                 }
+            }
+        }
+    }
+
+    // ---- each sheet has numbers of its own
+
+    /** A floor with four sheets of 40 numbers that are all alike. */
+    private static RingingRock allSheets(int number) {
+        RingingRock x = Edges.told("crew");
+        for (int s = 0; s < 4; s++) {
+            x.sheet(s, 8, 40);
+            x.write(s, 0, number);
+            for (int n = 1; n < 40; n *= 2) {
+                x.copy(s, 0, s, n, Math.min(n, 40 - n));
+            }
+        }
+        return x;
+    }
+
+    /** That all of a sheet's 40 numbers are one and the same STUFF; the floor is used up by it. */
+    private static void allAre(String label, RingingRock x, int s, int stuff) {
+        due.is(label + ": sheet " + s, x.load(s), 36);
+        due.is(label + ": first 36 of sheet " + s, x.cells(stuff), Edges.ALL);
+        x.stuff(0, 0);
+        due.is(label + ": the others", x.copy(s, 36, s, 0, 4), 4);
+        due.is(label + ": sheet " + s, x.load(s), 36);
+        due.is(label + ": last 4 of sheet " + s, x.cells(stuff), Edges.ALL);
+        due.is(label + ": no more", x.copy(s, 0, s, 1, 40), Due.BEYOND);
+    }
+
+    private static void othersAre(String label, RingingRock x, int s, int stuff) {
+        for (int other = 0; other < 4; other++) {
+            if (other != s) {
+                allAre(label, x, other, stuff);
+            }
+        }
+    }
+
+    private static void sheetLeavesOthers() {
+        for (int s = 0; s < 4; s++) {
+            for (int n : new int[] {0, 1, 39, 40}) {
+                for (int bits : new int[] {0, 8, 32}) {
+                    RingingRock x = allSheets(3);
+                    x.sheet(s, bits, n);
+                    othersAre("sheet " + bits + " " + n, x, s, 3);
+                }
+            }
+            RingingRock x = allSheets(3);
+            x.sheet(s, 8, 40);
+            allAre("anew", x, s, 0);
+        }
+    }
+
+    private static void writeAndCopyLeaveOthers() {
+        for (int s = 0; s < 4; s++) {
+            RingingRock x = allSheets(3);
+            x.write(s, 0, 4);
+            x.write(s, 39, 4);
+            othersAre("write", x, s, 3);
+            for (int t = 0; t < 4; t++) {
+                RingingRock y = allSheets(3);
+                y.sheet(s, 8, 40);
+                due.is("copy", y.copy(s, 0, t, 0, 40), 40);
+                for (int other = 0; other < 4; other++) {
+                    allAre("copy " + s + " " + t, y, other, other == s || other == t ? 0 : 3);
+                }
+            }
+        }
+    }
+
+    /** What stands ahead of a sheet's first number and behind its last is no matter, were it no STUFF and no time. */
+    private static void loadAndJudgeTheirOwn() {
+        for (int s = 0; s < 4; s++) {
+            for (int n : new int[] {0, 1, 5, 35, 36, 37, 40}) {
+                RingingRock x = allSheets(99);
+                x.sheet(s, 8, n);
+                due.is("load, " + n + " in sheet " + s, x.load(s), Math.min(n, 36));
+                for (int c = 0; c < Math.min(n, 36); c++) {
+                    int time = c % 6 * 2 + c / 6 * 2;
+                    x.write(s, c, time);
+                }
+                due.is("judge, " + n + " in sheet " + s, x.judge(s, 0), 0);
+                x.write(s, 0, 1);
+                due.is("judge, the first, " + n + " in sheet " + s, x.judge(s, 0), n == 0 ? 0 : 1);
             }
         }
     }

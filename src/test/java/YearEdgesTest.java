@@ -201,9 +201,7 @@ public final class YearEdgesTest {
 
     private static RingingRock muteInYear(int year) {
         RingingRock x = Edges.told("mute at 14");
-        while (x.count(0) < year) {
-            x.years(Math.min(60, year - x.count(0)));
-        }
+        Edges.goTo(x, year);
         Edges.tell(x, "rock 0 to 35");
         x.seed(seedOfHole(60));
         return x;
